@@ -1048,7 +1048,6 @@ public final class PathHouse {
         private Term readGroup() {
             enter();
             Term made = readOr(null);
-            in.skipBlanks();
             in.expect(')');
             open--;
             return made;

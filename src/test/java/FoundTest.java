@@ -80,6 +80,11 @@ public final class FoundTest {
                 bench.due("found(" + i + ", " + what + ")", x.found(i, what), PathHouse.NONE);
             }
         }
+        Bench.query(x, "$[1]");
+        bench.due("find()", x.find(), 1);
+        bench.due("found(1, 0) behind fewer nodes", x.found(1, 0), PathHouse.NONE);
+        bench.due("path(1) behind fewer nodes", x.path(1), PathHouse.NONE);
+        bench.due("number(1) behind fewer nodes", x.number(1), 0);
         int[] whats = {5, 6, -1, Integer.MIN_VALUE, Integer.MAX_VALUE};
         for (int what : whats) {
             bench.due("found(0, " + what + ")", x.found(0, what), PathHouse.NONE);

@@ -44,6 +44,7 @@ public final class JsonTest {
         "\"\u00f4\u0090\u0080\u0080\"", "1@1", "\"\u00f5\u0080\u0080\u0080\"", "1@1", "\"\u00ff\"", "1@1",
         "\"ab\u00e2\u0082", "1@3", "\"ab\u00e2\u0082\"", "1@3", "\"ab\u00e2(\u00a1\"", "1@3", "\"\u00f0\u009f\u0098", "1@1",
         "\"\u00f0\u009f\u0098\"", "1@1", "\"\u00f8\u0088\u0080\u0080\u0080\"", "1@1", "\"\u00c3\u00c3\u00a9\"", "1@1",
+        "\"\u0081\u0080\u0080\u0080\"", "1@1", "\"\u00f9\u0080\u0080\u0080\"", "1@1", "\"\u0084\u0080\u0080\u0080\"", "1@1",
         "\"\u00e2\u0082\u00c0\"", "1@1", "\u00ff", "1@0", "[\u00c3\u00a9]", "1@1", "{\"\u00c3\":1}", "1@2",
         "\"\\\u00c3\u00a9\"", "1@2", "\"\\u\u00c3\u00a9\"", "1@3",
     };
@@ -80,6 +81,7 @@ public final class JsonTest {
         dueCut(bench);
         dueKept(bench);
         dueLatest(bench);
+        dueAnew(bench);
         bench.end();
     }
 
@@ -209,5 +211,23 @@ public final class JsonTest {
         Bench.json(x, "[1]");
         bench.due("fault(0) without", x.fault(0), 0);
         bench.due("fault(1) without", x.fault(1), PathHouse.NONE);
+    }
+
+    // Nothing of a text with a fault gets into the value ahead of it, or into the one behind it.
+    private static void dueAnew(Bench bench) {
+        PathHouse x = Bench.house("[1,[2]]", "$..*");
+        bench.due("json with a fault", Bench.json(x, "[[[[7]]],8,9"), 1);
+        bench.due("about(0)", x.about(0), 4);
+        bench.due("about(1)", x.about(1), 3);
+        bench.due("find()", x.find(), 3);
+        bench.due("paths", Bench.paths(x), "[0] [1] [1][0]");
+        bench.due("json", Bench.json(x, "[" + Bench.repeat("1,", 298) + "1]"), 0);
+        bench.due("json with LIMIT", Bench.json(x, "[" + Bench.repeat("1,", 299) + "1]"), 4);
+        bench.due("about(0)", x.about(0), 300);
+        bench.due("json", Bench.json(x, "{\"a\":1}"), 0);
+        bench.due("json", Bench.json(x, "{\"a\":2,\"b\":3}"), 0);
+        bench.due("about(0)", x.about(0), 3);
+        bench.due("find()", x.find(), 2);
+        bench.due("paths", Bench.paths(x), "['a'] ['b']");
     }
 }

@@ -132,6 +132,7 @@ public final class QueryTest {
         dueLimit(bench);
         dueLong(bench);
         dueKept(bench);
+        dueAnew(bench);
         bench.end();
     }
 
@@ -229,5 +230,21 @@ public final class QueryTest {
         bench.due("query(1) of more bytes", x.query(1), 0);
         bench.due("find()", x.find(), 1);
         bench.due("found(0, 0)", x.found(0, 0), 5);
+    }
+
+    // Nothing of a query with a fault is left in the one behind it.
+    private static void dueAnew(Bench bench) {
+        PathHouse x = new PathHouse();
+        bench.due("query with FORM", Bench.query(x, "$" + Bench.repeat("[?@", 16)), 1);
+        bench.due("query as deep as can be", Bench.query(x, "$" + Bench.repeat("[?@", 16) + Bench.repeat("]", 16)), 0);
+        bench.due("query with LIMIT", Bench.query(x, "$[?" + Bench.repeat("(", 17)), 4);
+        bench.due("query as deep as can be", Bench.query(x, "$[?" + Bench.repeat("(", 15) + "@" + Bench.repeat(")", 15) + "]"), 0);
+        bench.due("query with TYPE", Bench.query(x, "$[?f()]"), 2);
+        bench.due("query with RANGE", Bench.query(x, "$.aaaaaaaaaa[9007199254740992]"), 3);
+        bench.due("its place", x.fault(1), 13);
+        bench.due("query with TYPE", Bench.query(x, "$.aaaaaaaaaaaaaaaaaaaa[?f()]"), 2);
+        bench.due("its place", x.fault(1), 24);
+        bench.due("query without", Bench.query(x, "$.a"), 0);
+        bench.due("its place", x.fault(1), PathHouse.NONE);
     }
 }
