@@ -528,7 +528,7 @@ public final class PathHouse {
         private int codePoint() {
             int lead = here();
             int more = followers(lead);
-            int code = more == 0 ? lead : lead & (63 >> more);
+            int code = more > 0 ? lead & (63 >> more) : lead;
             boolean good = more >= 0;
             for (int k = 1; k <= more; k++) {
                 int b = byteAt(at + k);

@@ -21,6 +21,7 @@ public final class FindTest {
         dueFunctions();
         dueLogic();
         dueNested();
+        dueRfc();
         bench.end();
     }
 
@@ -315,5 +316,21 @@ public final class FindTest {
         due("[1,[2,[3]]]", "$..[?@[?@]]", "[1] [1][1]", 12 + 6 + 5 + 2);
         due("[1]", "$" + Bench.repeat("[?$", 16) + Bench.repeat("]", 16), "[0]", 32);
         due("[[1]]", "$[?count(@[?count(@[?@])==0])==1]", "[0]", 1 + 1 + 1 + 1 + 1 + 1 + 1);
+    }
+
+    // The examples of RFC 9535, 2.3.5.3, that need no match() or search(). ( ) costs no LOOK of its own.
+    private static void dueRfc() {
+        due(RFC, "$.a[?@.b == 'kilo']", "['a'][9]", 26);
+        due(RFC, "$.a[?(@.b == 'kilo')]", "['a'][9]", 26);
+        due(RFC, "$.a[?@>3]", "['a'][1] ['a'][4] ['a'][5]", 12);
+        due(RFC, "$.a[?@.b]", "['a'][6] ['a'][7] ['a'][8] ['a'][9]", 22);
+        due(RFC, "$[?@.*]", "['a'] ['o']", 7);
+        due(RFC, "$[?@[?@.b]]", "['a']", 37);
+        due(RFC, "$.o[?@<3, ?@<3]", "['o']['p'] ['o']['q'] ['o']['p'] ['o']['q']", 13);
+        due(RFC, "$.a[?@<2 || @.b == \"k\"]", "['a'][2] ['a'][7]", 25);
+        due(RFC, "$.o[?@>1 && @<4]", "['o']['q'] ['o']['r']", 7);
+        due(RFC, "$.o[?@.u || @.x]", "['o']['t']", 16);
+        due(RFC, "$.a[?@.b == $.x]", "['a'][0] ['a'][1] ['a'][2] ['a'][3] ['a'][4] ['a'][5]", 32);
+        due(RFC, "$.a[?@ == @]", "['a'][0] ['a'][1] ['a'][2] ['a'][3] ['a'][4] ['a'][5] ['a'][6] ['a'][7] ['a'][8] ['a'][9]", 26);
     }
 }
