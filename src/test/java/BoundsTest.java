@@ -14,32 +14,23 @@ public final class BoundsTest {
         bench.end();
     }
 
-    private static PathHouse due(Bench bench, String json, String query, int answer, int looks) {
-        PathHouse x = Bench.house(json, query);
-        bench.due(query + ": fault(0)", x.fault(0), 0);
-        bench.due(query + ": find()", x.find(), answer);
-        bench.due(query + ": about(4)", x.about(4), looks);
-        bench.due(query + ": about(5)", x.about(5), Math.max(0, answer));
-        return x;
-    }
-
     private static String ints(int n) {
         return "[" + Bench.repeat("1,", n - 1) + "1]";
     }
 
     private static void dueMany(Bench bench) {
         String four = Bench.repeat("*,", 3) + "*";
-        due(bench, ints(250), "$[" + four + "]", 1000, 4);
-        due(bench, ints(250), "$[" + four + ",0]", PathHouse.MANY, 5);
-        due(bench, ints(250), "$[" + four + ",'a']", 1000, 5);
-        due(bench, ints(251), "$[" + four + "]", PathHouse.MANY, 4);
-        due(bench, ints(250), "$[" + four + "][*]", 0, 1004);
-        due(bench, ints(250), "$[" + four + ",:1][*]", PathHouse.MANY, 5);
-        due(bench, ints(250), "$[" + four + ",?@]", PathHouse.MANY, 6);
-        due(bench, "[" + ints(99) + "," + ints(99) + "]", "$..[*,*,*,*,*]", 1000, 201 * 6);
-        due(bench, "[" + ints(99) + "," + ints(99) + "]", "$..[*,*,*,*,*,0]", PathHouse.MANY, 7 + 7 + 99 * 7 + 6);
-        due(bench, ints(200), "$[*,*,*,*,*].x", 0, 1005);
-        PathHouse x = due(bench, ints(250), "$[" + four + "]", 1000, 4);
+        bench.dueFind(ints(250), "$[" + four + "]", 1000, 4);
+        bench.dueFind(ints(250), "$[" + four + ",0]", PathHouse.MANY, 5);
+        bench.dueFind(ints(250), "$[" + four + ",'a']", 1000, 5);
+        bench.dueFind(ints(251), "$[" + four + "]", PathHouse.MANY, 4);
+        bench.dueFind(ints(250), "$[" + four + "][*]", 0, 1004);
+        bench.dueFind(ints(250), "$[" + four + ",:1][*]", PathHouse.MANY, 5);
+        bench.dueFind(ints(250), "$[" + four + ",?@]", PathHouse.MANY, 6);
+        bench.dueFind("[" + ints(99) + "," + ints(99) + "]", "$..[*,*,*,*,*]", 1000, 201 * 6);
+        bench.dueFind("[" + ints(99) + "," + ints(99) + "]", "$..[*,*,*,*,*,0]", PathHouse.MANY, 7 + 7 + 99 * 7 + 6);
+        bench.dueFind(ints(200), "$[*,*,*,*,*].x", 0, 1005);
+        PathHouse x = bench.dueFind(ints(250), "$[" + four + "]", 1000, 4);
         bench.due("found(999, 3)", x.found(999, 3), 249);
         bench.due("found(1000, 3)", x.found(1000, 3), PathHouse.NONE);
         bench.due("number(999)", x.number(999), 1);
@@ -47,20 +38,20 @@ public final class BoundsTest {
 
     private static void dueManyInFilters(Bench bench) {
         String five = "[" + Bench.repeat("*,", 4) + "*]";
-        due(bench, ints(200), "$[?count($" + five + ")==1000]", 200, 1 + 200 * (1 + 5 + 1));
-        due(bench, ints(201), "$[?count($" + five + ")==1000]", PathHouse.MANY, 1 + 1 + 5);
-        due(bench, ints(201), "$[?$" + five + "]", PathHouse.MANY, 1 + 1 + 5);
-        due(bench, ints(201), "$[?@||$" + five + "]", 201, 1 + 201);
-        due(bench, ints(201), "$[?value($" + five + ")==1]", PathHouse.MANY, 1 + 1 + 5);
-        due(bench, ints(201), "$[?!$" + five + "]", PathHouse.MANY, 1 + 1 + 5);
+        bench.dueFind(ints(200), "$[?count($" + five + ")==1000]", 200, 1 + 200 * (1 + 5 + 1));
+        bench.dueFind(ints(201), "$[?count($" + five + ")==1000]", PathHouse.MANY, 1 + 1 + 5);
+        bench.dueFind(ints(201), "$[?$" + five + "]", PathHouse.MANY, 1 + 1 + 5);
+        bench.dueFind(ints(201), "$[?@||$" + five + "]", 201, 1 + 201);
+        bench.dueFind(ints(201), "$[?value($" + five + ")==1]", PathHouse.MANY, 1 + 1 + 5);
+        bench.dueFind(ints(201), "$[?!$" + five + "]", PathHouse.MANY, 1 + 1 + 5);
     }
 
     private static void dueTired(Bench bench) {
         // A filter asked of each of 245 INTS, 243 LOOKS for each: the OR, 241 asked selectors, the comparison.
         String asked = "count($[" + Bench.repeat("1,", 240) + "1])==241";
-        due(bench, ints(245), "$[?" + asked + "]", 245, 1 + 245 * 243);
-        due(bench, ints(247), "$[?" + asked + "]", PathHouse.TIRED, 60000);
-        PathHouse x = due(bench, ints(247), "$[?" + asked + "]", PathHouse.TIRED, 60000);
+        bench.dueFind(ints(245), "$[?" + asked + "]", 245, 1 + 245 * 243);
+        bench.dueFind(ints(247), "$[?" + asked + "]", PathHouse.TIRED, 60000);
+        PathHouse x = bench.dueFind(ints(247), "$[?" + asked + "]", PathHouse.TIRED, 60000);
         bench.due("found(0, 0)", x.found(0, 0), PathHouse.NONE);
         bench.due("path(0)", x.path(0), PathHouse.NONE);
         bench.due("find() again", x.find(), PathHouse.TIRED);
@@ -73,13 +64,13 @@ public final class BoundsTest {
     // 1 + 150 * (1 + 398) = 59,851 LOOKS, and so many selectors behind the filter.
     private static void dueExactly(Bench bench, int more, int answer, int looks) {
         String most = "$[?count($[" + Bench.repeat("1,", 397) + "1])<0";
-        due(bench, ints(150), most + Bench.repeat(",9", more) + "]", answer, looks);
+        bench.dueFind(ints(150), most + Bench.repeat(",9", more) + "]", answer, looks);
     }
 
     private static void dueFirstOfBoth(Bench bench) {
         String four = "$[" + Bench.repeat("*,", 3) + "*,";
-        due(bench, ints(250), four + "0,?count($[" + Bench.repeat("1,", 250) + "1])==1]", PathHouse.MANY, 5);
-        due(bench, ints(250), four + "?count($[" + Bench.repeat("1,", 250) + "1])==1,0]", PathHouse.TIRED, 60000);
+        bench.dueFind(ints(250), four + "0,?count($[" + Bench.repeat("1,", 250) + "1])==1]", PathHouse.MANY, 5);
+        bench.dueFind(ints(250), four + "?count($[" + Bench.repeat("1,", 250) + "1])==1,0]", PathHouse.TIRED, 60000);
     }
 
     private static void dueForgotten(Bench bench) {

@@ -87,50 +87,41 @@ public final class JsonTest {
 
     private static void dueFaults(Bench bench, String[] rows, boolean raw) {
         for (int i = 0; i + 1 < rows.length; i += 2) {
-            due(bench, raw ? Bench.raw(rows[i]) : Bench.utf8(rows[i]), rows[i], rows[i + 1]);
+            if (raw) {
+                bench.dueRawJson(rows[i], rows[i + 1]);
+            } else {
+                bench.dueJson(rows[i], rows[i + 1]);
+            }
         }
     }
 
-    private static void due(Bench bench, byte[] bytes, String text, String want) {
-        PathHouse x = new PathHouse();
-        int answer = Bench.json(x, bytes);
-        bench.due("json of " + text, answer + "@" + x.fault(1), want);
-        bench.due("fault(0) of " + text, x.fault(0), answer);
-        bench.due("a value of " + text, x.about(0) == PathHouse.NONE ? 1 : 0, answer == 0 ? 0 : 1);
-        bench.due("the TAPE behind " + text, x.about(6), 0);
-    }
-
-    private static void due(Bench bench, String text, String want) {
-        due(bench, Bench.utf8(text), text, want);
-    }
-
     private static void dueLongDigits(Bench bench) {
-        due(bench, Bench.repeat("9", 1200), "3@0");
-        due(bench, "-1" + Bench.repeat("0", 1198), "3@0");
-        due(bench, "[" + Bench.repeat("1", 1199), "3@1");
-        due(bench, "0" + Bench.repeat("1", 1199), "1@1");
-        due(bench, Bench.repeat(" ", 1199) + "5", "0@-1");
-        due(bench, Bench.repeat(" ", 1200), "1@1200");
+        bench.dueJson(Bench.repeat("9", 1200), "3@0");
+        bench.dueJson("-1" + Bench.repeat("0", 1198), "3@0");
+        bench.dueJson("[" + Bench.repeat("1", 1199), "3@1");
+        bench.dueJson("0" + Bench.repeat("1", 1199), "1@1");
+        bench.dueJson(Bench.repeat(" ", 1199) + "5", "0@-1");
+        bench.dueJson(Bench.repeat(" ", 1200), "1@1200");
     }
 
     private static void dueValueLimit(Bench bench) {
         String many = "[" + Bench.repeat("1,", 298);
-        due(bench, many + "1]", "0@-1");
-        due(bench, many + "1,1]", "4@599");
-        due(bench, many + "1,x]", "1@599");
-        due(bench, many + "1,]", "1@599");
-        due(bench, many + "1,  -", "4@601");
-        due(bench, many + "1,\"", "4@599");
-        due(bench, many + "1,9007199254740992", "4@599");
-        due(bench, many + "9007199254740992,1", "3@597");
-        due(bench, many + "[]]", "0@-1");
-        due(bench, many + "[[]]]", "4@598");
-        due(bench, many + "[x", "1@598");
-        due(bench, many + "{\"a\":{}}]", "4@602");
-        due(bench, many + "{\"a\"}]", "1@601");
-        due(bench, "{\"a\":[" + Bench.repeat("1,", 297) + "1],\"b\":1}", "4@607");
-        due(bench, "{\"a\":[" + Bench.repeat("1,", 297) + "1],\"a\":1}", "2@603");
-        due(bench, "{\"a\":[" + Bench.repeat("1,", 297) + "1],\"b\":}", "1@607");
+        bench.dueJson(many + "1]", "0@-1");
+        bench.dueJson(many + "1,1]", "4@599");
+        bench.dueJson(many + "1,x]", "1@599");
+        bench.dueJson(many + "1,]", "1@599");
+        bench.dueJson(many + "1,  -", "4@601");
+        bench.dueJson(many + "1,\"", "4@599");
+        bench.dueJson(many + "1,9007199254740992", "4@599");
+        bench.dueJson(many + "9007199254740992,1", "3@597");
+        bench.dueJson(many + "[]]", "0@-1");
+        bench.dueJson(many + "[[]]]", "4@598");
+        bench.dueJson(many + "[x", "1@598");
+        bench.dueJson(many + "{\"a\":{}}]", "4@602");
+        bench.dueJson(many + "{\"a\"}]", "1@601");
+        bench.dueJson("{\"a\":[" + Bench.repeat("1,", 297) + "1],\"b\":1}", "4@607");
+        bench.dueJson("{\"a\":[" + Bench.repeat("1,", 297) + "1],\"a\":1}", "2@603");
+        bench.dueJson("{\"a\":[" + Bench.repeat("1,", 297) + "1],\"b\":}", "1@607");
         PathHouse x = new PathHouse();
         Bench.json(x, many + "1]");
         bench.due("about(0)", x.about(0), 300);
@@ -138,18 +129,18 @@ public final class JsonTest {
 
     private static void dueDepthLimit(Bench bench) {
         String deep = Bench.repeat("[", 30);
-        due(bench, deep + Bench.repeat("]", 30), "0@-1");
-        due(bench, deep + "[", "4@30");
-        due(bench, deep + "1", "4@30");
-        due(bench, deep + "n", "4@30");
-        due(bench, deep + " \"", "4@31");
-        due(bench, deep + "x", "1@30");
-        due(bench, deep + "}", "1@30");
-        due(bench, deep + Bench.repeat("]", 29), "1@59");
-        due(bench, Bench.repeat("[", 29) + "[],[],[1", "4@36");
-        due(bench, Bench.repeat("{\"a\":", 30), "1@150");
-        due(bench, Bench.repeat("{\"a\":", 30) + "1", "4@150");
-        due(bench, Bench.repeat("{\"a\":", 29) + "1" + Bench.repeat("}", 29), "0@-1");
+        bench.dueJson(deep + Bench.repeat("]", 30), "0@-1");
+        bench.dueJson(deep + "[", "4@30");
+        bench.dueJson(deep + "1", "4@30");
+        bench.dueJson(deep + "n", "4@30");
+        bench.dueJson(deep + " \"", "4@31");
+        bench.dueJson(deep + "x", "1@30");
+        bench.dueJson(deep + "}", "1@30");
+        bench.dueJson(deep + Bench.repeat("]", 29), "1@59");
+        bench.dueJson(Bench.repeat("[", 29) + "[],[],[1", "4@36");
+        bench.dueJson(Bench.repeat("{\"a\":", 30), "1@150");
+        bench.dueJson(Bench.repeat("{\"a\":", 30) + "1", "4@150");
+        bench.dueJson(Bench.repeat("{\"a\":", 29) + "1" + Bench.repeat("}", 29), "0@-1");
         PathHouse x = new PathHouse();
         Bench.json(x, deep + Bench.repeat("]", 30));
         bench.due("about(0)", x.about(0), 30);

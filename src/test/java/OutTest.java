@@ -14,7 +14,7 @@ public final class OutTest {
         PathHouse x = Bench.house(json, query);
         bench.due(query + " in " + json + ": find()", x.find(), 1);
         bench.due("path(0) of " + query, x.path(0), Bench.utf8(want).length);
-        bench.due("OUT of path(0) of " + query, Bench.out(x), want);
+        bench.due("OUT of path(0) of " + query, Bench.longOut(json, query, true), want);
     }
 
     private static void duePaths(Bench bench) {
@@ -43,7 +43,7 @@ public final class OutTest {
         PathHouse x = Bench.house(json, "$");
         bench.due("find() in " + json, x.find(), 1);
         bench.due("text(0) of " + json, x.text(0), Bench.utf8(want).length);
-        bench.due("OUT of text(0) of " + json, Bench.out(x), want);
+        bench.due("OUT of text(0) of " + json, Bench.longOut(json, "$", false), want);
     }
 
     private static void dueTexts(Bench bench) {
@@ -125,11 +125,7 @@ public final class OutTest {
 
     // 1,194 quotes in a name: each of them needs a \ in the path.
     private static void dueLongest(Bench bench) {
-        String name = Bench.repeat("'", 1194);
-        PathHouse x = Bench.house("{\"" + name + "\":1}", "$.*");
-        bench.due("find()", x.find(), 1);
-        bench.due("path(0)", x.path(0), 3 + 2 * 1194 + 2);
-        bench.due("OUT", Bench.out(x), "$['" + Bench.repeat("\\'", 1194) + "']");
+        duePath(bench, "{\"" + Bench.repeat("'", 1194) + "\":1}", "$.*", "$['" + Bench.repeat("\\'", 1194) + "']");
         PathHouse y = Bench.house("[\"" + Bench.repeat("'", 1196) + "\"]", "$");
         bench.due("find()", y.find(), 1);
         bench.due("text(0)", y.text(0), 1200);

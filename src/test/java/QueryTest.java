@@ -123,11 +123,11 @@ public final class QueryTest {
         String[][] tables = {SEGMENTS, STRINGS, INTS, FILTERS, COMPARISONS, FUNCTIONS};
         for (String[] table : tables) {
             for (int i = 0; i + 1 < table.length; i += 2) {
-                due(bench, table[i], table[i + 1]);
+                bench.dueQuery(table[i], table[i + 1]);
             }
         }
         for (int i = 0; i + 1 < BYTES.length; i += 2) {
-            due(bench, Bench.raw(BYTES[i]), BYTES[i], BYTES[i + 1]);
+            bench.dueRawQuery(BYTES[i], BYTES[i + 1]);
         }
         dueLimit(bench);
         dueLong(bench);
@@ -136,75 +136,62 @@ public final class QueryTest {
         bench.end();
     }
 
-    private static void due(Bench bench, String text, String want) {
-        due(bench, Bench.utf8(text), text, want);
-    }
-
-    private static void due(Bench bench, byte[] bytes, String text, String want) {
-        PathHouse x = new PathHouse();
-        int answer = Bench.query(x, bytes);
-        bench.due("query of " + text, answer + "@" + x.fault(1), want);
-        bench.due("fault(0) of " + text, x.fault(0), answer);
-        bench.due("a query of " + text, x.about(2) == PathHouse.NONE ? 1 : 0, answer == 0 ? 0 : 1);
-        bench.due("the TAPE behind " + text, x.about(6), 0);
-    }
-
     private static void dueLimit(Bench bench) {
         String filters = "$" + Bench.repeat("[?@", 16);
-        due(bench, filters + Bench.repeat("]", 16), "0@-1");
-        due(bench, filters + "[?", "4@50");
-        due(bench, filters + "[ ?", "4@51");
-        due(bench, filters + "[*,?", "4@52");
-        due(bench, filters + "[?x", "4@50");
-        due(bench, filters + "[x", "1@50");
-        due(bench, filters + "==@[?", "1@53");
-        due(bench, filters + "?", "1@49");
-        due(bench, filters + "&&(", "4@51");
-        due(bench, filters + "&&!(", "4@52");
-        due(bench, filters + "&&f(", "4@52");
-        due(bench, filters + "&&f ", "1@52");
-        due(bench, filters + "(", "1@49");
-        due(bench, filters + ".a(", "1@51");
-        due(bench, filters + "==length(", "4@57");
-        due(bench, filters + "==(", "1@51");
-        due(bench, filters + "[0]['a'][*][:]" + Bench.repeat("]", 16), "0@-1");
-        due(bench, filters + ",?@" + Bench.repeat("]", 16), "0@-1");
-        due(bench, filters + ",?@[?@", "4@53");
-        due(bench, filters + "][?@" + Bench.repeat("]", 16), "0@-1");
-        due(bench, filters + "][?@[?", "4@54");
+        bench.dueQuery(filters + Bench.repeat("]", 16), "0@-1");
+        bench.dueQuery(filters + "[?", "4@50");
+        bench.dueQuery(filters + "[ ?", "4@51");
+        bench.dueQuery(filters + "[*,?", "4@52");
+        bench.dueQuery(filters + "[?x", "4@50");
+        bench.dueQuery(filters + "[x", "1@50");
+        bench.dueQuery(filters + "==@[?", "1@53");
+        bench.dueQuery(filters + "?", "1@49");
+        bench.dueQuery(filters + "&&(", "4@51");
+        bench.dueQuery(filters + "&&!(", "4@52");
+        bench.dueQuery(filters + "&&f(", "4@52");
+        bench.dueQuery(filters + "&&f ", "1@52");
+        bench.dueQuery(filters + "(", "1@49");
+        bench.dueQuery(filters + ".a(", "1@51");
+        bench.dueQuery(filters + "==length(", "4@57");
+        bench.dueQuery(filters + "==(", "1@51");
+        bench.dueQuery(filters + "[0]['a'][*][:]" + Bench.repeat("]", 16), "0@-1");
+        bench.dueQuery(filters + ",?@" + Bench.repeat("]", 16), "0@-1");
+        bench.dueQuery(filters + ",?@[?@", "4@53");
+        bench.dueQuery(filters + "][?@" + Bench.repeat("]", 16), "0@-1");
+        bench.dueQuery(filters + "][?@[?", "4@54");
         String groups = "$[?" + Bench.repeat("(", 15);
-        due(bench, groups + "@" + Bench.repeat(")", 15) + "]", "0@-1");
-        due(bench, groups + "(", "4@18");
-        due(bench, groups + "!(", "4@19");
-        due(bench, groups + "@[?", "4@20");
-        due(bench, groups + "@)&&(@)" + Bench.repeat(")", 14) + "]", "0@-1");
-        due(bench, groups + "@)&&((", "4@23");
-        due(bench, groups + "x", "1@19");
-        due(bench, groups + "9007199254740992==f(", "4@37");
+        bench.dueQuery(groups + "@" + Bench.repeat(")", 15) + "]", "0@-1");
+        bench.dueQuery(groups + "(", "4@18");
+        bench.dueQuery(groups + "!(", "4@19");
+        bench.dueQuery(groups + "@[?", "4@20");
+        bench.dueQuery(groups + "@)&&(@)" + Bench.repeat(")", 14) + "]", "0@-1");
+        bench.dueQuery(groups + "@)&&((", "4@23");
+        bench.dueQuery(groups + "x", "1@19");
+        bench.dueQuery(groups + "9007199254740992==f(", "4@37");
         String functions = "$[?" + Bench.repeat("length(", 15);
-        due(bench, functions + "@" + Bench.repeat(")", 15) + "==1]", "0@-1");
-        due(bench, functions + "length(", "4@114");
-        due(bench, functions + "(", "4@108");
-        due(bench, functions + "@[?", "4@110");
-        due(bench, functions + "@)&&f(", "1@114");
-        due(bench, functions + "@)&&f((", "4@114");
-        due(bench, "$" + Bench.repeat("[?@]", 20), "0@-1");
-        due(bench, "$[?" + Bench.repeat("(@)&&", 20) + "@]", "0@-1");
-        due(bench, "$[?" + Bench.repeat("length(@)==1||", 20) + "@]", "0@-1");
-        due(bench, "$[" + Bench.repeat("?@,", 20) + "?@]", "0@-1");
-        due(bench, "$" + Bench.repeat("[0]", 40), "0@-1");
+        bench.dueQuery(functions + "@" + Bench.repeat(")", 15) + "==1]", "0@-1");
+        bench.dueQuery(functions + "length(", "4@114");
+        bench.dueQuery(functions + "(", "4@108");
+        bench.dueQuery(functions + "@[?", "4@110");
+        bench.dueQuery(functions + "@)&&f(", "1@114");
+        bench.dueQuery(functions + "@)&&f((", "4@114");
+        bench.dueQuery("$" + Bench.repeat("[?@]", 20), "0@-1");
+        bench.dueQuery("$[?" + Bench.repeat("(@)&&", 20) + "@]", "0@-1");
+        bench.dueQuery("$[?" + Bench.repeat("length(@)==1||", 20) + "@]", "0@-1");
+        bench.dueQuery("$[" + Bench.repeat("?@,", 20) + "?@]", "0@-1");
+        bench.dueQuery("$" + Bench.repeat("[0]", 40), "0@-1");
     }
 
     private static void dueLong(Bench bench) {
-        due(bench, "$" + Bench.repeat(".a", 599), "0@-1");
-        due(bench, "$" + Bench.repeat(" ", 1197) + ".a", "0@-1");
-        due(bench, "$" + Bench.repeat(" ", 1199), "1@1200");
-        due(bench, "$[?" + Bench.repeat("@||", 398) + "@]", "0@-1");
-        due(bench, "$[?" + Bench.repeat("@&&", 398) + "@]", "0@-1");
-        due(bench, "$[" + Bench.repeat("1,", 598) + "1]", "0@-1");
-        due(bench, "$[" + Bench.repeat("9", 1197) + "]", "3@2");
-        due(bench, "$['" + Bench.repeat("a", 1195) + "']", "0@-1");
-        due(bench, "$." + Bench.repeat("a", 1198), "0@-1");
+        bench.dueQuery("$" + Bench.repeat(".a", 599), "0@-1");
+        bench.dueQuery("$" + Bench.repeat(" ", 1197) + ".a", "0@-1");
+        bench.dueQuery("$" + Bench.repeat(" ", 1199), "1@1200");
+        bench.dueQuery("$[?" + Bench.repeat("@||", 398) + "@]", "0@-1");
+        bench.dueQuery("$[?" + Bench.repeat("@&&", 398) + "@]", "0@-1");
+        bench.dueQuery("$[" + Bench.repeat("1,", 598) + "1]", "0@-1");
+        bench.dueQuery("$[" + Bench.repeat("9", 1197) + "]", "3@2");
+        bench.dueQuery("$['" + Bench.repeat("a", 1195) + "']", "0@-1");
+        bench.dueQuery("$." + Bench.repeat("a", 1198), "0@-1");
     }
 
     private static void dueKept(Bench bench) {

@@ -10,9 +10,10 @@ public final class StormTest {
     public static void main(String[] args) {
         Bench bench = new Bench();
         Random chance = new Random(512);
-        for (int run = 0; run < 400; run++) {
+        for (int run = 0; run < 1500; run++) {
             PathHouse x = chance.nextBoolean() ? new PathHouse() : Bench.house("{\"a\":[1,{\"b\":\"c\"},[2,[3]]],\"d\":null}", "$..*");
-            for (int call = 0; call < 300; call++) {
+            // Each of them makes six calls at the most, so that no object is asked more than 512 times.
+            for (int call = 0; call < 80; call++) {
                 String thrown = "nothing";
                 try {
                     call(bench, x, chance);
