@@ -6,7 +6,9 @@ public final class EdgeBoundsTest {
         dueTape();
         dueValues();
         dueDepth();
+        dueDeepest();
         dueOpen();
+        dueFindInOpen();
         dueOpenAgain();
         dueLongest();
         dueNodes();
@@ -77,6 +79,22 @@ public final class EdgeBoundsTest {
         BENCH.due("about(0)", x.about(0), 35);
     }
 
+    // The deepest VALUE can be told, held against another one and written like any other.
+    private static void dueDeepest() {
+        String arrays = Bench.repeat("[", 29) + "7" + Bench.repeat("]", 29);
+        PathHouse x = BENCH.dueFind(arrays, "$..[?@==7]", 1, 30 * 2 + 29 * 2);
+        BENCH.due("path(0)", Bench.path(x, 0), "$" + Bench.repeat("[0]", 29));
+        BENCH.due("found(0, 2)", x.found(0, 2), 29);
+        String objects = Bench.repeat("{\"a\":", 29) + "[]" + Bench.repeat("}", 29);
+        PathHouse y = BENCH.dueFind(objects, "$" + Bench.repeat(".a", 29), 1, 29);
+        BENCH.due("path(0)", Bench.path(y, 0), "$" + Bench.repeat("['a']", 29));
+        BENCH.due("text of " + arrays, Bench.longOut(arrays, "$", false), arrays);
+        BENCH.due("text of " + objects, Bench.longOut(objects, "$", false), objects);
+        BENCH.dueFind(arrays, "$[?$==$]", 1, 1 + 1 + 30);
+        BENCH.dueFind(objects, "$[?$<=$]", 1, 1 + 1 + 30);
+        BENCH.dueFind(arrays, "$[?$==@]", 0, 1 + 1 + 29);
+    }
+
     private static void dueOpen() {
         BENCH.sentence("a query: 16 OPEN ones of ( , [? and the ( of functions within one another");
         String filters = "$" + Bench.repeat("[?@", 15);
@@ -99,6 +117,20 @@ public final class EdgeBoundsTest {
         BENCH.dueQuery("$" + Bench.repeat("[?(count(@", 5) + "[?(@)]" + Bench.repeat(")==1)]", 5), "4@53");
     }
 
+    // Sixteen filters within one another are asked, each with nodelists of its own.
+    private static void dueFindInOpen() {
+        BENCH.dueFind("[1]", "$" + Bench.repeat("[?$", 16) + Bench.repeat("]", 16), 1, 32);
+        // Of n filters the outermost costs 1 + 2 * (1 + what the one inside of it costs): 3 * (2^n - 1) LOOKS.
+        BENCH.dueFind("[1,2]", "$" + Bench.repeat("[?$", 14) + Bench.repeat("]", 14), 2, 3 * 16383);
+        BENCH.dueFind("[1,2]", "$" + Bench.repeat("[?$", 15) + Bench.repeat("]", 15), PathHouse.TIRED, 60000);
+        String deep = Bench.repeat("[", 17) + "7" + Bench.repeat("]", 17);
+        PathHouse x = BENCH.dueFind(deep, "$" + Bench.repeat("[?@", 15) + "[?@[0]==7]" + Bench.repeat("]", 15), 1, 16 * 2 + 2);
+        BENCH.due("path(0)", Bench.path(x, 0), "$[0]");
+        BENCH.dueFind("[1]", "$[?" + Bench.repeat("!(", 15) + "@" + Bench.repeat(")", 15) + "]", 0, 2);
+        BENCH.dueFind("[\"a\"]", "$[?" + Bench.repeat("length(", 15) + "@" + Bench.repeat(")", 15) + "==$.x]", 1, 3);
+        BENCH.dueFind("[1]", "$" + Bench.repeat("[?(count($", 5) + "[?@]" + Bench.repeat(")==1)]", 5), 1, 5 * 3 + 2);
+    }
+
     // What has been closed is not open: it does not count for what stands behind it.
     private static void dueOpenAgain() {
         BENCH.dueQuery("$" + Bench.repeat("[?@]", 17), "0@-1");
@@ -108,6 +140,12 @@ public final class EdgeBoundsTest {
         BENCH.dueQuery("$[?f(" + Bench.repeat("(@),", 17) + "g())]", "2@3");
         BENCH.dueQuery("$" + Bench.repeat("[0]", 17) + Bench.repeat("['a']", 17) + Bench.repeat("[:]", 17) + "..[*]", "0@-1");
         BENCH.dueQuery("$[?@" + Bench.repeat("[0]", 17) + "]", "0@-1");
+        // Nor does what a query with a fault has left open.
+        PathHouse x = new PathHouse();
+        for (String bad : new String[] {"$" + Bench.repeat("[?@", 16), "$[?" + Bench.repeat("(", 15), "$[?" + Bench.repeat("f(", 16)}) {
+            BENCH.due("query of " + bad, Bench.query(x, bad) > 0 ? 1 : 0, 1);
+            BENCH.due("query", Bench.query(x, "$" + Bench.repeat("[?@", 16) + Bench.repeat("]", 16)), 0);
+        }
     }
 
     private static void dueLongest() {

@@ -132,6 +132,16 @@ public final class EdgeCallsTest {
             BENCH.due("about(2) behind query(" + n + ")", y.about(2), n % 2 == 1 ? n / 2 : NONE);
             BENCH.due("fault(1) behind query(" + n + ")", y.fault(1), n % 2 == 1 ? NONE : n);
         }
+        // A character of which n leaves a part has no end, whatever stands behind on the TAPE.
+        for (int n = 1; n <= 5; n++) {
+            PathHouse cut = new PathHouse();
+            Bench.feed(cut, Bench.utf8("\"\uD83D\uDE00\""));
+            BENCH.due("json(" + n + ")", cut.json(n), 1);
+            BENCH.due("fault(1) behind json(" + n + ")", cut.fault(1), n == 5 ? 5 : 1);
+            Bench.feed(cut, Bench.utf8("$.\uD83D\uDE00"));
+            BENCH.due("query(" + n + ")", cut.query(n), n == 1 ? 0 : 1);
+            BENCH.due("fault(1) behind query(" + n + ")", cut.fault(1), n == 1 ? NONE : 2);
+        }
         PathHouse x = new PathHouse();
         Bench.feed(x, Bench.utf8("7"));
         BENCH.due("json(0) of a TAPE with bytes", x.json(0), 1);
@@ -399,6 +409,13 @@ public final class EdgeCallsTest {
             BENCH.due("found(0, " + what + ")", x.found(0, what), NONE);
         }
         BENCH.due("found(0, 5)", x.found(0, 5), NONE);
+        // Where fewer nodes are found than before, those behind them are gone.
+        Bench.query(x, "$[0,1]");
+        BENCH.due("find()", x.find(), 2);
+        for (int i = 2; i < 18; i++) {
+            BENCH.due("found(" + i + ", 0) behind fewer nodes", x.found(i, 0), NONE);
+            BENCH.due("path(" + i + ") behind fewer nodes", x.path(i), NONE);
+        }
     }
 
     private static String five(PathHouse x, int i) {
